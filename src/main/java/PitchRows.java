@@ -749,9 +749,21 @@ public final class PitchRows {
         }
     }
 
-    /** Sendings, and what sounds by them. */
-    private static final class Air {
+    /** What is numbered by how many there are, and taken back from its end. */
+    private abstract static class Numbered {
         int count;
+
+        final boolean takeBack(int m) {
+            if (!isWithin(m, 0, count)) {
+                return false;
+            }
+            count -= m;
+            return true;
+        }
+    }
+
+    /** Sendings, and what sounds by them. */
+    private static final class Air extends Numbered {
         final int[] whose = new int[MOST_SENDINGS];
         final int[] moment = new int[MOST_SENDINGS];
         final int[] high = new int[MOST_SENDINGS];
@@ -766,14 +778,6 @@ public final class PitchRows {
             moment[count] = from;
             high[count] = higher;
             count++;
-            return true;
-        }
-
-        boolean takeBack(int m) {
-            if (!isWithin(m, 0, count)) {
-                return false;
-            }
-            count -= m;
             return true;
         }
 
@@ -827,8 +831,7 @@ public final class PitchRows {
     }
 
     /** What was heard of whom by which shift. */
-    private static final class Readings {
-        int count;
+    private static final class Readings extends Numbered {
         final int[] hearer = new int[MOST_READINGS];
         final int[] whose = new int[MOST_READINGS];
         final int[] late = new int[MOST_READINGS];
@@ -845,14 +848,6 @@ public final class PitchRows {
             high[count] = byHigh;
             heard[count] = v;
             count++;
-            return true;
-        }
-
-        boolean takeBack(int m) {
-            if (!isWithin(m, 0, count)) {
-                return false;
-            }
-            count -= m;
             return true;
         }
 

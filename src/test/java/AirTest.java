@@ -154,6 +154,10 @@ public final class AirTest {
         x.tune(2, 2, 0);
         x.tune(0, 0, 0);
         due.is("moment 22", x.loudest(0, 0), 22);
+        PitchRows last = Due.with("c6;p-----5;p5-----");
+        last.send(0, 20, 0);
+        due.is("moment 25", last.loudest(1, 0), 25);
+        due.is("how much from there on", last.loudest(1, 1), 1);
         due.is("loudest(3, 2)", x.loudest(3, 2), PitchRows.UNKNOWN);
         due.is("loudest(-1, 0)", x.loudest(-1, 0), PitchRows.UNKNOWN);
         due.is("loudest(0, 2)", x.loudest(0, 2), PitchRows.OUTSIDE);
@@ -175,6 +179,9 @@ public final class AirTest {
         Due.cells(x, 1, 0, 0, 1, 0, 2, 0, 3, 0, 4, 0, 5, 0, 6, 0, 8, 9, 8, 9);
         due.is("eight taken back", x.day(1, 2, 0, 8, 0), 0);
         due.is("eight once more", x.day(1, 2, 0, 9, 1), 8);
+        Due.cells(x, 2, 3, 1, 99, 99);
+        due.is("what is behind is none of it", x.day(2, 2, 0, 1, 0), 2);
+        due.is("what is behind is none of it", x.day(2, 2, 0, 2, 0), PitchRows.OUTSIDE);
     }
 
     private static void whatADayAnswers() {
@@ -201,6 +208,17 @@ public final class AirTest {
         x.send(0, 0, 5);
         due.is("what was sent sounds", whatDay(x, 3), 2);
         due.is("higher", whatDay(x, 4, 0, 0), 0);
+        x.send(1, 10, 0);
+        x.send(2, 20, 0);
+        due.is("three that were sent", whatDay(x, 2), 4);
+        due.is("the last of what was sent", whatDay(x, 3), 11);
+        due.is("keen listens to what was sent", whatDay(x, 11), 4);
+        due.is("plain does", whatDay(x, 10), 1);
+        PitchRows edges = Due.with("c6;p0-----;p-----1;p-----5");
+        due.is("the last is moment 0", whatDay(edges, 3, 0, 0), 0);
+        due.is("the last is moment 25", whatDay(edges, 3, 20, 1), 25);
+        due.is("two in moment 25", whatDay(edges, 4, 20, 1, 20, 2), 25);
+        due.is("moments", whatDay(edges, 2, 20, 1, 0, 0), 2);
     }
 
     /** A day of pairs that are all of sheet 0. */

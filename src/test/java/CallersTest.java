@@ -203,6 +203,7 @@ public final class CallersTest {
         due.is("c3;p021", Due.with("c3;p021").ofCaller(0, 2), 1);
         due.is("of a keen one as of a plain one", Due.with("c3;k021").ofCaller(0, 2), 1);
         due.is("two late, one high, twice", Due.with("c4;p0213").ofCaller(0, 2), 0);
+        due.is("the first beat is free", Due.with("c3;p-02").ofCaller(0, 2), 0);
         due.is("c6;p014352", Due.with("c6;p014352").ofCaller(0, 2), 1);
         due.is("two late, twice", Due.with("c6;p024135").ofCaller(0, 2), 0);
     }

@@ -99,6 +99,14 @@ public final class GoodRowsTest {
         due.row("--2", waysOf(x, 3), 1, 1, 0, 2, none, none, none);
         PitchRows six = Due.with("c6;p------");
         due.row("------", waysOf(six, 0), 116, 0, 1, 4, 3, 5, 2);
+        six.tune(0, 0, 3);
+        six.tune(0, 1, 3);
+        due.row("33----", waysOf(six, 0), 0, none, none, none, none, none, none);
+        Due.told(six, "c5;p-----;p11---");
+        due.is("----- behind ------", six.ways(0, -1), 40);
+        due.row("11---", waysOf(six, 1), 0, none, none, none, none, none, none);
+        Due.told(six, "c6;p------");
+        due.is("------ once more", six.ways(0, -1), 116);
         six.tune(0, 0, 5);
         due.is("5----- is 0----- upside down", six.ways(0, -1), Due.with("c6;p0-----").ways(0, -1));
     }

@@ -125,7 +125,8 @@ public final class ModelTest {
         }
         int[] codes = text.chars().toArray();
         if (chance.nextInt(4) == 0) {
-            codes[chance.nextInt(codes.length)] = "cpbk;-0123456789 ".charAt(chance.nextInt(17)) + chance.nextInt(2) * 256;
+            int code = "cpbk;-0123456789 ".charAt(chance.nextInt(17));
+            codes[chance.nextInt(codes.length)] = code + chance.nextInt(2) * 256;
         }
         int sheet = chance.nextInt(4);
         int lane = chance.nextInt(3);
