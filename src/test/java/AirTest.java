@@ -186,74 +186,68 @@ public final class AirTest {
 
     private static void whatADayAnswers() {
         PitchRows x = Due.with("c3;p0-2;k01-;p---");
-        due.is("no moments", whatDay(x, 2), 0);
-        due.is("no last", whatDay(x, 3), PitchRows.NONE);
-        due.is("no two", whatDay(x, 4), PitchRows.NONE);
-        due.is("nothing to listen to", whatDay(x, 10), 0);
-        due.is("no caller 3", whatDay(x, 13), PitchRows.NONE);
-        due.is("moments of one", whatDay(x, 2, 4, 0), 2);
-        due.is("last of one", whatDay(x, 3, 4, 0), 6);
-        due.is("the latest", whatDay(x, 3, 20, 0), 22);
-        due.is("moments of two", whatDay(x, 2, 4, 0, 5, 1), 3);
-        due.is("moments of two at once", whatDay(x, 2, 4, 0, 4, 1), 3);
-        due.is("the same pitch is not two", whatDay(x, 4, 4, 0, 4, 1), PitchRows.NONE);
-        due.is("two pitches", whatDay(x, 4, 4, 0, 5, 1), 6);
-        due.is("two pitches, the first", whatDay(x, 4, 10, 0, 11, 1, 4, 0, 5, 1), 6);
-        due.is("plain listens", whatDay(x, 10, 4, 0), 2);
-        due.is("keen listens", whatDay(x, 11, 4, 0), 2);
-        due.is("keen listens to itself", whatDay(x, 11, 4, 1), 4);
-        due.is("one of a free call listens", whatDay(x, 12, 4, 0), 0);
-        due.is("a free call is sent", whatDay(x, 0, 4, 2), 1);
-        due.is("a free call does not sound", whatDay(x, 2, 4, 2), 0);
+        due.is("no moments", Due.day(x, 2), 0);
+        due.is("no last", Due.day(x, 3), PitchRows.NONE);
+        due.is("no two", Due.day(x, 4), PitchRows.NONE);
+        due.is("nothing to listen to", Due.day(x, 10), 0);
+        due.is("no caller 3", Due.day(x, 13), PitchRows.NONE);
+        due.is("moments of one", Due.day(x, 2, 4, 0), 2);
+        due.is("last of one", Due.day(x, 3, 4, 0), 6);
+        due.is("the latest", Due.day(x, 3, 20, 0), 22);
+        due.is("moments of two", Due.day(x, 2, 4, 0, 5, 1), 3);
+        due.is("moments of two at once", Due.day(x, 2, 4, 0, 4, 1), 3);
+        due.is("the same pitch is not two", Due.day(x, 4, 4, 0, 4, 1), PitchRows.NONE);
+        due.is("two pitches", Due.day(x, 4, 4, 0, 5, 1), 6);
+        due.is("two pitches, the first", Due.day(x, 4, 10, 0, 11, 1, 4, 0, 5, 1), 6);
+        due.is("plain listens", Due.day(x, 10, 4, 0), 2);
+        due.is("keen listens", Due.day(x, 11, 4, 0), 2);
+        due.is("keen listens to itself", Due.day(x, 11, 4, 1), 4);
+        due.is("one of a free call listens", Due.day(x, 12, 4, 0), 0);
+        due.is("a free call is sent", Due.day(x, 0, 4, 2), 1);
+        due.is("a free call does not sound", Due.day(x, 2, 4, 2), 0);
         x.send(0, 0, 5);
-        due.is("what was sent sounds", whatDay(x, 3), 2);
-        due.is("higher", whatDay(x, 4, 0, 0), 0);
+        due.is("what was sent sounds", Due.day(x, 3), 2);
+        due.is("higher", Due.day(x, 4, 0, 0), 0);
         x.send(1, 10, 0);
         x.send(2, 20, 0);
-        due.is("three that were sent", whatDay(x, 2), 4);
-        due.is("the last of what was sent", whatDay(x, 3), 11);
-        due.is("keen listens to what was sent", whatDay(x, 11), 4);
-        due.is("plain does", whatDay(x, 10), 1);
+        due.is("three that were sent", Due.day(x, 2), 4);
+        due.is("the last of what was sent", Due.day(x, 3), 11);
+        due.is("keen listens to what was sent", Due.day(x, 11), 4);
+        due.is("plain does", Due.day(x, 10), 1);
         PitchRows edges = Due.with("c6;p0-----;p-----1;p-----5");
-        due.is("the last is moment 0", whatDay(edges, 3, 0, 0), 0);
-        due.is("the last is moment 25", whatDay(edges, 3, 20, 1), 25);
-        due.is("two in moment 25", whatDay(edges, 4, 20, 1, 20, 2), 25);
-        due.is("moments", whatDay(edges, 2, 20, 1, 0, 0), 2);
-    }
-
-    /** A day of pairs that are all of sheet 0. */
-    private static int whatDay(PitchRows x, int what, int... pairs) {
-        Due.cells(x, 0, pairs);
-        return x.day(0, 2, 0, pairs.length / 2, what);
+        due.is("the last is moment 0", Due.day(edges, 3, 0, 0), 0);
+        due.is("the last is moment 25", Due.day(edges, 3, 20, 1), 25);
+        due.is("two in moment 25", Due.day(edges, 4, 20, 1, 20, 2), 25);
+        due.is("moments", Due.day(edges, 2, 20, 1, 0, 0), 2);
     }
 
     private static void actsThatCanNotBe() {
         PitchRows x = Due.with("c2;p01;p10");
         int[] whats = {0, 2, 3, 4, 10, 11, 12, 13};
         for (int what : whats) {
-            due.is("no such caller " + what, whatDay(x, what, 0, 0, 0, 2), -101);
-            due.is("not so many " + what, whatDay(x, what, 1, 9), -100);
+            due.is("no such caller " + what, Due.day(x, what, 0, 0, 0, 2), -101);
+            due.is("not so many " + what, Due.day(x, what, 1, 9), -100);
         }
-        due.is("no such caller", whatDay(x, 1, 0, 0, 0, 2), 1);
-        due.is("caller 3", whatDay(x, 1, 0, 3), 0);
-        due.is("not so many", whatDay(x, 1, 0, 0, 2, 9, 0, 2), 1);
-        due.is("as many", whatDay(x, 1, 0, 0, 1, 9), PitchRows.NONE);
+        due.is("no such caller", Due.day(x, 1, 0, 0, 0, 2), 1);
+        due.is("caller 3", Due.day(x, 1, 0, 3), 0);
+        due.is("not so many", Due.day(x, 1, 0, 0, 2, 9, 0, 2), 1);
+        due.is("as many", Due.day(x, 1, 0, 0, 1, 9), PitchRows.NONE);
         int[] nine = {0, 0, 1, 1, 2, 0, 3, 1, 4, 0, 5, 1, 6, 0, 7, 1, 0, 9, 8, 0};
-        due.is("a ninth", whatDay(x, 1, nine), 9);
-        due.is("a ninth", whatDay(x, 0, nine), -109);
+        due.is("a ninth", Due.day(x, 1, nine), 9);
+        due.is("a ninth", Due.day(x, 0, nine), -109);
         due.is("fault()", x.fault(), 0);
         for (int m = 0; m < 6; m++) {
             x.send(0, 0, 0);
         }
-        due.is("a ninth by what was sent", whatDay(x, 1, nine), 2);
+        due.is("a ninth by what was sent", Due.day(x, 1, nine), 2);
     }
 
     private static void aDayChangesNothing() {
         PitchRows x = Due.with("c2;p01;p10");
         x.send(0, 3, 1);
         x.send(1, 4, 0);
-        due.is("a day", whatDay(x, 0, 2, 9, 0, 0, 1, 1, 2, 1), 3);
-        due.is("a day that can't be", whatDay(x, 0, 2, 9, 0, 0, 9 - 1, 9), -102);
+        due.is("a day", Due.day(x, 0, 2, 9, 0, 0, 1, 1, 2, 1), 3);
+        due.is("a day that can't be", Due.day(x, 0, 2, 9, 0, 0, 9 - 1, 9), -102);
         due.is("many(2)", x.many(2), 2);
         due.is("air(0)", x.air(0), 0);
         due.is("air(3)", x.air(3), 2);
@@ -265,22 +259,22 @@ public final class AirTest {
 
     private static void pairsThatAreNoActs() {
         PitchRows x = Due.with("c2;p01;p10");
-        due.is("second 4", whatDay(x, 1, 0, 4), PitchRows.OUTSIDE);
-        due.is("second 8", whatDay(x, 1, 0, 8), PitchRows.OUTSIDE);
-        due.is("second 10", whatDay(x, 1, 0, 10), PitchRows.OUTSIDE);
-        due.is("second -1", whatDay(x, 1, 0, -1), PitchRows.OUTSIDE);
-        due.is("moment 21", whatDay(x, 1, 21, 0), PitchRows.OUTSIDE);
-        due.is("moment -1", whatDay(x, 1, -1, 0), PitchRows.OUTSIDE);
-        due.is("moment 21 of no caller", whatDay(x, 1, 21, 3), PitchRows.OUTSIDE);
-        due.is("moment 20 of no caller", whatDay(x, 1, 20, 3), 0);
-        due.is("nine taken back", whatDay(x, 1, 9, 9), PitchRows.OUTSIDE);
-        due.is("eight taken back", whatDay(x, 1, 8, 9), 0);
-        due.is("-1 taken back", whatDay(x, 1, -1, 9), PitchRows.OUTSIDE);
-        due.is("behind one that can't be", whatDay(x, 1, 1, 9, 0, 4), PitchRows.OUTSIDE);
-        due.is("behind one that can't be", whatDay(x, 0, 1, 9, 21, 0), PitchRows.OUTSIDE);
+        due.is("second 4", Due.day(x, 1, 0, 4), PitchRows.OUTSIDE);
+        due.is("second 8", Due.day(x, 1, 0, 8), PitchRows.OUTSIDE);
+        due.is("second 10", Due.day(x, 1, 0, 10), PitchRows.OUTSIDE);
+        due.is("second -1", Due.day(x, 1, 0, -1), PitchRows.OUTSIDE);
+        due.is("moment 21", Due.day(x, 1, 21, 0), PitchRows.OUTSIDE);
+        due.is("moment -1", Due.day(x, 1, -1, 0), PitchRows.OUTSIDE);
+        due.is("moment 21 of no caller", Due.day(x, 1, 21, 3), PitchRows.OUTSIDE);
+        due.is("moment 20 of no caller", Due.day(x, 1, 20, 3), 0);
+        due.is("nine taken back", Due.day(x, 1, 9, 9), PitchRows.OUTSIDE);
+        due.is("eight taken back", Due.day(x, 1, 8, 9), 0);
+        due.is("-1 taken back", Due.day(x, 1, -1, 9), PitchRows.OUTSIDE);
+        due.is("behind one that can't be", Due.day(x, 1, 1, 9, 0, 4), PitchRows.OUTSIDE);
+        due.is("behind one that can't be", Due.day(x, 0, 1, 9, 21, 0), PitchRows.OUTSIDE);
         x.day(0, 2, 5, 1, 0);
         due.is("fault()", x.fault(), 3);
-        whatDay(x, 0, 0, 4);
+        Due.day(x, 0, 0, 4);
         due.is("fault()", x.fault(), 0);
     }
 

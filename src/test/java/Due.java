@@ -1,6 +1,7 @@
 /** What the tests share: it counts and prints the answers that are not the ones that are due. */
 final class Due {
     private final String test;
+    private String part = "";
     private int asked;
     private int wrong;
 
@@ -8,12 +9,17 @@ final class Due {
         this.test = test;
     }
 
+    /** Names the part of the test to which what follows belongs, as it is printed. */
+    void begin(String name) {
+        part = " " + name;
+    }
+
     /** A call, as it is printed if its answer is wrong, what it answered, what is due. */
     void is(String call, long got, long want) {
         asked++;
         if (got != want) {
             wrong++;
-            System.out.println(test + ": " + call + " answered " + got + ", due is " + want);
+            System.out.println(test + part + ": " + call + " answered " + got + ", due is " + want);
         }
     }
 
@@ -21,7 +27,7 @@ final class Due {
         asked++;
         if (!so) {
             wrong++;
-            System.out.println(test + ": not so: " + what);
+            System.out.println(test + part + ": not so: " + what);
         }
     }
 
@@ -67,5 +73,11 @@ final class Due {
         PitchRows x = new PitchRows();
         told(x, text);
         return x;
+    }
+
+    /** What day() answers to a day of pairs that are all of sheet 0. */
+    static int day(PitchRows x, int what, int... pairs) {
+        cells(x, 0, pairs);
+        return x.day(0, 2, 0, pairs.length / 2, what);
     }
 }
