@@ -315,8 +315,7 @@ public final class PitchRows {
                 }
             }
         }
-        int divisor = divisorWithAllShifts(upper);
-        return which == 0 ? upper / divisor : SHIFTS_BUT_NONE / divisor;
+        return inLeastTerms(which == 0 ? upper : SHIFTS_BUT_NONE, upper);
     }
 
     // ---- 5 sheets, parts
@@ -479,13 +478,14 @@ public final class PitchRows {
         return caller.pitch[beat];
     }
 
-    private static int divisorWithAllShifts(int upper) {
-        for (int d = SHIFTS_BUT_NONE; d > 1; d--) {
-            if (upper % d == 0 && SHIFTS_BUT_NONE % d == 0) {
-                return d;
+    /** What either number of the share, upper of all shifts but none, is in least terms. */
+    private static int inLeastTerms(int number, int upper) {
+        for (int divisor = SHIFTS_BUT_NONE; divisor > 1; divisor--) {
+            if (upper % divisor == 0 && SHIFTS_BUT_NONE % divisor == 0) {
+                return number / divisor;
             }
         }
-        return 1;
+        return number;
     }
 
     private static boolean areActs(Sheet sheet, int from, int pairs) {

@@ -32,6 +32,7 @@ public final class FaceTest {
     public static void main(String[] args) throws IOException {
         constants();
         theFace();
+        theFaceAsTheDocumentTellsIt();
         classesInside();
         wordsThatAreLeftOut();
         whatIsMade();
@@ -88,6 +89,30 @@ public final class FaceTest {
                 due.holds(m + " does not bear a public one's name",
                         c == PitchRows.class && Modifier.isPublic(m.getModifiers()) || !names.contains(m.getName()));
             }
+        }
+    }
+
+    /** Each public line of the document's face stands in the class, and no other public one does. */
+    private static void theFaceAsTheDocumentTellsIt() throws IOException {
+        if (!Files.exists(Document.PLACE)) {
+            return;
+        }
+        List<String> told = new ArrayList<>();
+        for (String line : Files.readAllLines(Document.PLACE)) {
+            if (line.strip().startsWith("public ")) {
+                told.add(line.replaceFirst("\\);$", ") {"));
+            }
+        }
+        List<String> written = new ArrayList<>();
+        for (String line : sourceWithoutComments().split("\n")) {
+            if (line.matches(".*\\bpublic\\b.*")) {
+                written.add(line);
+            }
+        }
+        due.is("public lines", written.size(), told.size());
+        for (int i = 0; i < Math.min(told.size(), written.size()); i++) {
+            due.holds("the document's " + told.get(i).strip() + ", the class's " + written.get(i).strip(),
+                    told.get(i).equals(written.get(i)));
         }
     }
 
